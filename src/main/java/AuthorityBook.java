@@ -265,9 +265,10 @@ public final class AuthorityBook {
             return NONE;
         }
         int open = openPowers(kind, amount, NONE);
+        int actors = actorsFor(party);
         int found = 0;
         for (int i = 0; i < told.partyCount; i++) {
-            if (mayActFor(1 << i, party)) {
+            if (has(actors, i)) {
                 weighNow(open, 1 << i, party);
                 found |= judge.first == NONE ? 0 : 1 << i;
             }
@@ -280,10 +281,11 @@ public final class AuthorityBook {
             return NONE;
         }
         int open = openPowers(kind, amount, NONE);
+        int actors = actorsFor(party);
         int found = -2;
         int size = MOST_PARTIES + 1;
         for (int set = 1; set < 1 << told.partyCount; set++) {
-            if (Integer.bitCount(set) < size && mayActFor(set, party)) {
+            if ((set & ~actors) == 0 && Integer.bitCount(set) < size) {
                 weighNow(open, set, party);
                 if (judge.first != NONE) {
                     found = set;
@@ -477,6 +479,12 @@ public final class AuthorityBook {
             && (persons & told.firms) == 0 && !has(persons, party);
     }
 
+    /** All persons who could act for a PARTY now; the dead never help. */
+    private int actorsFor(int party) {
+        int all = (1 << told.partyCount) - 1;
+        return all & ~told.firms & ~(1 << party) & ~log.deadBy(log.moment);
+    }
+
     private static boolean has(int bits, int i) {
         return (bits >> i & 1) != 0;
     }
@@ -564,7 +572,7 @@ public final class AuthorityBook {
         judge.weigh(told, open, log.deadBy(log.moment), persons, party);
     }
 
-    /** Nothing that is put down later changes how an ACT binds but its approval, so it is judged once, at its MOMENT. */
+    /** What is put down later changes nothing of this but by an approval, so an ACT is judged once, at its MOMENT. */
     private void judgeNow(Act one) {
         one.openPowers = openPowers(one.kind, one.amount, NONE);
         weighNow(one.openPowers, one.persons, one.party);
@@ -746,7 +754,7 @@ public final class AuthorityBook {
 
     /** Finds by which of the open POWERS some persons CAN. */
     private static final class Judge {
-        /** For each firm the POWERS USED for it by firms so deep within another; 0: the persons CAN'T. */
+        /** For each firm the POWERS USED for it, with so many firms within it as were weighed; 0: they can't. */
         private final int[] within = new int[MOST_PARTIES];
         private final int[] next = new int[MOST_PARTIES];
         private Told told;
@@ -776,10 +784,11 @@ public final class AuthorityBook {
             }
         }
 
-        /** From the innermost firms outward, so that no firm is asked more than once at each depth. */
+        /** From the innermost firms outward; where one depth changes nothing, those around it don't either. */
         private void weighFirms() {
             Arrays.fill(within, 0);
-            for (int depth = 0; depth < FIRMS_WITHIN; depth++) {
+            boolean changed = true;
+            for (int depth = 0; depth < FIRMS_WITHIN && changed; depth++) {
                 Arrays.fill(next, 0);
                 for (int i = 0; i < told.powerCount; i++) {
                     int giver = told.powers[i].giver;
@@ -787,8 +796,17 @@ public final class AuthorityBook {
                         next[giver] = usedBy(i);
                     }
                 }
-                System.arraycopy(next, 0, within, 0, MOST_PARTIES);
+                changed = takeNext();
             }
+        }
+
+        private boolean takeNext() {
+            boolean changed = false;
+            for (int i = 0; i < MOST_PARTIES; i++) {
+                changed |= within[i] != next[i];
+                within[i] = next[i];
+            }
+            return changed;
         }
 
         /** POWERS USED, if enough HOLDERS of this one ACT; 0 else. */

@@ -18,6 +18,7 @@ public final class JudgementTest {
         usedPowers();
         hanging();
         boundAmounts();
+        asMuchAsThereCanBe();
         Probe.finish("JudgementTest");
     }
 
@@ -319,6 +320,27 @@ public final class JudgementTest {
         dead.does(2, 0, 3, 0, 50);
         dead.die(1);
         Probe.same("who lived at its MOMENT", dead.hang(0) + dead.hang(1), 0);
+    }
+
+    private static void asMuchAsThereCanBe() {
+        // 0 to 3 persons, 4 to 7 firms, the last POWERS alone reach the persons
+        StringBuilder text = new StringBuilder("person;person;person;person;firm;firm;firm;firm;");
+        for (int i = 0; i < 18; i++) {
+            text.append("from ").append(4 + i % 4).append(" to ").append(4 + (i + 1) % 4).append(" by 1 kinds 0 most 9 sub;");
+        }
+        text.append("from 7 to 3 by 1 kinds 0 most 9;from 0 to 7 by 1 kinds 0 most 9;");
+        AuthorityBook book = Probe.book(text.toString());
+        Probe.same("POWERS", book.now(1), 20);
+        Probe.same("by the last", book.can(8, 0, 0, 9), 19);
+        Probe.same("up to", book.upTo(8, 0, 0), 9);
+        Probe.same("alone", book.alone(0, 0, 9), 8);
+        Probe.same("fewest", book.fewest(0, 0, 9), 8);
+        Probe.same("three firms, by the least number", book.can(8, 5, 0, 9), 1);
+        book.does(8, 0, 1, 0, 9);
+        Probe.same("the last two are used", book.used(0), 3 << 18);
+        Probe.same("the last is needed", book.hang(19), 1);
+        Probe.same("the first is not", book.hang(0), 0);
+        Probe.same("scope of the last", book.scope(19, 1, 0), 1);
     }
 
     private static void boundAmounts() {

@@ -128,6 +128,14 @@ public final class TextTest {
         bad("person" + (char) 255 + ";", 6, 1);
         bad("person" + (char) 0xBB + ";", 6, 1);
         bad("person1;", 0, 1);
+        bad("personz;", 0, 1);
+        bad("aperson;", 0, 1);
+        bad("person0;", 0, 1);
+        bad("9person;", 0, 1);
+        bad("person`;", 6, 1);
+        bad("person{;", 6, 1);
+        bad("person/;", 6, 1);
+        bad("person:;", 6, 1);
         bad(TWO + "from0 to 1 by 1 kinds 0 most 1;", 14, 1);
         bad(TWO + "from 0to 1 by 1 kinds 0 most 1;", 19, 1);
         bad(TWO + "from 0000 to 1 by 1 kinds 0 most 1;", 19, 1);
