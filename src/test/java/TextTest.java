@@ -214,6 +214,13 @@ public final class TextTest {
         bad(twenty + LINE, 654, 4);
         bad(twenty + "under boss", 654, 4);
         bad(twenty + "by", 654, 1);
+        String full = Probe.times("firm;", 8) + Probe.times(LINE, 20);
+        good(full, 28);
+        good(full + "\n ", 28);
+        bad(full + "firm;", 680, 4);
+        bad(full + LINE, 680, 4);
+        bad(full + "by", 680, 1);
+        bad(full + ";", 680, 1);
     }
 
     private static void longTexts() {
