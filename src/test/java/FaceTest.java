@@ -3,6 +3,7 @@ import java.lang.reflect.Field;
 import java.lang.reflect.Method;
 import java.lang.reflect.Modifier;
 import java.util.Arrays;
+import java.util.NoSuchElementException;
 import java.util.TreeSet;
 
 /** The face: the members that the document tells, and no other that is not private. */
@@ -21,6 +22,9 @@ public final class FaceTest {
                 Probe.yes(m.getName() + " is public", Modifier.isPublic(m.getModifiers()));
                 Class<?> due = m.getName().equals("end") ? boolean.class : int.class;
                 Probe.yes(m.getName() + " answers a " + due, m.getReturnType() == due);
+                boolean throwing = m.getName().equals("power") || m.getName().equals("act");
+                Class<?>[] thrown = throwing ? new Class<?>[] {NoSuchElementException.class} : new Class<?>[0];
+                Probe.yes(m.getName() + " throws what is told", Arrays.equals(m.getExceptionTypes(), thrown));
                 StringBuilder row = new StringBuilder();
                 for (Class<?> c : m.getParameterTypes()) {
                     row.append(row.length() == 0 ? "" : ",").append(c.getName());
@@ -38,11 +42,14 @@ public final class FaceTest {
             Probe.yes(f.getName() + " static, so final",
                 !Modifier.isStatic(f.getModifiers()) || Modifier.isFinal(f.getModifiers()));
         }
+        Edge.of("The public face", "public AuthorityBook();");
         Constructor<?>[] made = AuthorityBook.class.getDeclaredConstructors();
-        Probe.yes("one public constructor without arguments",
+        Edge.yes("one public constructor without arguments",
             made.length == 1 && made[0].getParameterCount() == 0 && Modifier.isPublic(made[0].getModifiers()));
-        Probe.yes("the class is final", Modifier.isFinal(AuthorityBook.class.getModifiers()));
-        Probe.same("NONE", AuthorityBook.NONE, -1);
+        Edge.of("The public face", "public final class AuthorityBook {");
+        Edge.yes("the class is final", Modifier.isFinal(AuthorityBook.class.getModifiers()));
+        Edge.of("The public face", "public static final int NONE = -1;");
+        Edge.same("NONE", AuthorityBook.NONE, -1);
         Probe.finish("FaceTest");
     }
 }

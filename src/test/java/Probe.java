@@ -80,8 +80,8 @@ final class Probe {
 
     static String letters(AuthorityBook book, int power) {
         StringBuilder line = new StringBuilder();
-        for (int i = 0; i < 200 && book.letter(power, i) != NONE; i++) {
-            line.append((char) book.letter(power, i));
+        for (int b = book.letter(power, 0); b != NONE && line.length() < 200; b = book.letter(power, line.length())) {
+            line.append((char) b);
         }
         return line.toString();
     }
