@@ -348,6 +348,12 @@ public final class EdgesOfJudgementTest {
             full.does(2, 0, 3, 0, i);
         }
         Edge.same("all sixteen", full.hang(0), 65535);
+        Desk twenty = new Desk("person;person;person;" + Probe.times("from 0 to 2 by 1 kinds 0 most 5 sub;", 19)
+            + "under 18 to 1 by 1 kinds 0 most 5;");
+        twenty.does(2, 0, 2, 0, 5);
+        for (int power = 0; power < 20; power++) {
+            Edge.same("of twenty: hang(" + power + ")", twenty.hang(power), power < 18 ? 0 : 1);
+        }
     }
 
     private static void hangUnder() {
